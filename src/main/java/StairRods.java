@@ -111,6 +111,8 @@ public final class StairRods {
 
     private final State now;
     private final State image;
+    // TEXTS that the image has are never told anew, so that their count is all that an image needs of them
+    private final Text[] library;
     private final int[] tape;
     private int taped;
     private final Reader reader;
@@ -124,6 +126,10 @@ public final class StairRods {
     public StairRods() {
         now = new State();
         image = new State();
+        library = new Text[TEXTS];
+        for (int i = 0; i < TEXTS; i++) {
+            library[i] = new Text();
+        }
         tape = new int[TEXT_BYTES];
         taped = 0;
         reader = new Reader();
@@ -170,7 +176,7 @@ public final class StairRods {
         }
         boolean whole = reader.read(tape, taped);
         taped = 0;
-        Text place = now.text[now.texts];
+        Text place = library[now.texts];
         if (!whole || place == null) {
             return NONE;
         }
@@ -867,7 +873,7 @@ public final class StairRods {
     }
 
     private Text textOf(int text) {
-        return text >= 0 && text < TEXTS && text < now.texts ? now.text[text] : null;
+        return text >= 0 && text < TEXTS && text < now.texts ? library[text] : null;
     }
 
     // ---- Doing
@@ -1231,7 +1237,6 @@ public final class StairRods {
         final int[] print;
         int texts;
         int ruling;
-        final Text[] text;
         final int[] change;
         final int[] sound;
         final int[] listened;
@@ -1251,10 +1256,6 @@ public final class StairRods {
             print = new int[LODGERS];
             texts = 0;
             ruling = NONE;
-            text = new Text[TEXTS];
-            for (int i = 0; i < TEXTS; i++) {
-                text[i] = new Text();
-            }
             change = new int[MOODS * MOODS];
             sound = new int[MOODS * MOODS];
             Arrays.fill(change, 1);
@@ -1278,13 +1279,6 @@ public final class StairRods {
             copyRow(from.print, print);
             texts = from.texts;
             ruling = from.ruling;
-            for (int i = 0; i < TEXTS; i++) {
-                Text mine = text[i];
-                Text other = from.text[i];
-                if (mine != null && other != null) {
-                    mine.copyText(other);
-                }
-            }
             copyRow(from.change, change);
             copyRow(from.sound, sound);
             copyRow(from.listened, listened);

@@ -204,6 +204,7 @@ public final class PromisesTest {
         says("if 1<2 then 3 else 4 end", 3, "if 2<2 then 3 else 4 end", 4, "if 2<=2 then 3 else 4 end", 3, "if 3>2 then 3 else 4 end", 3);
         says("if 2>2 then 3 else 4 end", 4, "if 2>=2 then 3 else 4 end", 3, "if 2=2 then 3 else 4 end", 3, "if 2#2 then 3 else 4 end", 4);
         says("if not 1<2 then 3 else 4 end", 4, "if not not 1<2 then 3 else 4 end", 3, "if 1<2 or 1<2 and 2<1 then 3 else 4 end", 3);
+        says("if 3<=2 then 3 else 4 end", 4, "if 1>=2 then 3 else 4 end", 4, "if 1=2 then 3 else 4 end", 4, "if 1#2 then 3 else 4 end", 3);
         says("if 2<1 and 1<2 or 1<2 then 3 else 4 end", 3, "if not 2<1 and 2<1 then 3 else 4 end", 4, "if 2<1 or 2<1 then 3 else 4 end", 4);
         says("if 1<2 and 3#4 then 3 else 4 end", 3, "1+if 2=3 then 1 else if 1=1 then 8 else 9 end end*2", 17);
         D.is("way down", Due.ticksBy("way*9+1", 4, false), 1);
@@ -357,6 +358,11 @@ public final class PromisesTest {
         D.is("those that can pass do", x.played(0), 22);
         D.is("is(0)", x.is(0), 9999);
         D.is("none can pass", x.played(0), 0);
+        x.undo();
+        x.undo();
+        Due.text(x, "hour 2;hour 1;");
+        D.is("9999 can be come to", x.played(1), 1);
+        D.is("is(0)", x.is(0), 9999);
         x = house();
         Due.text(x, "up 1 by 0;");
         D.is("nobody treads", x.played(0), 0);
@@ -1242,6 +1248,13 @@ public final class PromisesTest {
         D.is("back()", x.back(), 5);
         D.is("the latest image", x.about(2), 1);
         D.is("ticks", x.ticks(0, 1, true), 40);
+        Due.text(x, "ticks 50;");
+        x.by(2);
+        x.back();
+        D.is("by(2)", x.by(2), false);
+        D.is("another third text", Due.text(x, "ticks 60;"), 2);
+        x.by(2);
+        D.is("ticks", x.ticks(0, 1, true), 60);
     }
 
     /** Answers that show all that an image keeps. */
