@@ -234,6 +234,7 @@ public final class StairRods {
         if (script == null) {
             return OTHERS;
         }
+        // all in one method, since calls go eight deep at most and an hour's law needs seven of them
         for (int i = 0; i < script.clauses && i < CLAUSES; i++) {
             int first = script.first[i];
             int second = script.second[i];

@@ -122,7 +122,7 @@ public final class FormTest {
         methods(code);
     }
 
-    /** Lengths of methods, and how deep calls go where no method is entered twice. */
+    /** Lengths of methods, and how deep calls go (a call of the library counts too) where no method is entered twice. */
     private static void methods(String code) {
         Matcher m = Pattern.compile("\n( {4,8})(?:[a-zA-Z\\[\\]]+ )+([a-zA-Z]+)\\([^;{}]*\\) \\{\n(?s:(.*?))\n\\1}").matcher(code);
         Map<String, String> bodies = new HashMap<>();
@@ -149,7 +149,7 @@ public final class FormTest {
             return 0;
         }
         open.addLast(name);
-        int most = 0;
+        int most = Pattern.compile("\\b(Math|Arrays|System|Integer)\\.").matcher(bodies.get(name)).find() ? 1 : 0;
         Matcher m = Pattern.compile("\\b([a-zA-Z]+)\\(").matcher(bodies.get(name));
         while (m.find()) {
             if (bodies.containsKey(m.group(1))) {
