@@ -516,7 +516,7 @@ public final class StairRods {
             return NONE;
         }
         rows.weighFromFront(now);
-        rows.weighFromBack(now);
+        rows.weighFromBack(now, false);
         return part(rows.through(i, mood), rows.all(now.sounds), low);
     }
 
@@ -525,7 +525,7 @@ public final class StairRods {
             return NONE;
         }
         rows.weighFromFront(now);
-        rows.weighFromBack(now);
+        rows.weighFromBack(now, false);
         int set = 0;
         for (int mood = 0; mood < MOODS; mood++) {
             if (rows.through(i, mood) > 0) {
@@ -539,7 +539,7 @@ public final class StairRods {
         if (!within(i, 0, now.sounds - 1)) {
             return NONE;
         }
-        rows.seekHeaviest(now);
+        rows.weighFromBack(now, true);
         int mood = NONE;
         for (int k = 0; k <= i; k++) {
             mood = rows.heaviestBehind(now, k, mood);
@@ -1865,30 +1865,17 @@ public final class StairRods {
             }
         }
 
-        /** rear: what all rows weigh behind the i-th, if that is a MOOD, its SOUND aside. */
-        void weighFromBack(State state) {
+        /** rear: what all rows, or the heaviest one, weigh behind the i-th, if that is a MOOD, its SOUND aside. */
+        void weighFromBack(State state, boolean heaviest) {
             int last = Math.min(state.sounds, SOUNDS) - 1;
             for (int i = last; i >= 0; i--) {
                 for (int mood = 0; mood < MOODS; mood++) {
-                    long sum = i == last ? 1 : 0;
+                    long weight = i == last ? 1 : 0;
                     for (int to = 0; to < MOODS && i < last; to++) {
-                        sum += goesOn(state, i, mood, to);
+                        long on = goesOn(state, i, mood, to);
+                        weight = heaviest ? Math.max(weight, on) : weight + on;
                     }
-                    rear[i * MOODS + mood] = sum;
-                }
-            }
-        }
-
-        /** rear: what the heaviest row behind the i-th weighs, if that is a MOOD, its SOUND aside. */
-        void seekHeaviest(State state) {
-            int last = Math.min(state.sounds, SOUNDS) - 1;
-            for (int i = last; i >= 0; i--) {
-                for (int mood = 0; mood < MOODS; mood++) {
-                    long most = i == last ? 1 : 0;
-                    for (int to = 0; to < MOODS && i < last; to++) {
-                        most = Math.max(most, goesOn(state, i, mood, to));
-                    }
-                    rear[i * MOODS + mood] = most;
+                    rear[i * MOODS + mood] = weight;
                 }
             }
         }
