@@ -1,11 +1,59 @@
+import java.util.function.IntToLongFunction;
+
 /** What the tests of the project share: counting wrong answers, and putting a text on the tape. */
 final class Due {
+    static final int NONE = -1;
+    static final int LOW = Integer.MIN_VALUE;
+    static final int HIGH = Integer.MAX_VALUE;
     private int wrong = 0;
     private int asked = 0;
     private String promise = "";
 
     void promise(int number, String name) {
         promise = "promise " + number + " (" + name + ")";
+    }
+
+    /** What follows belongs to the test of this name. */
+    void test(String name) {
+        promise = name;
+    }
+
+    int asked() {
+        return asked;
+    }
+
+    /** Asks once with each of some arguments (put for the _ of the call's name); the same answer is due to all. */
+    void each(String call, int[] arguments, IntToLongFunction answer, long want) {
+        for (int argument : arguments) {
+            is(call.replace("_", String.valueOf(argument)), answer.applyAsLong(argument), want);
+        }
+    }
+
+    /** Asks once with each of some arguments; the argument itself, and so much more, is due. */
+    void eachItself(String call, int from, int to, IntToLongFunction answer, int more) {
+        for (int argument = from; argument <= to; argument++) {
+            is(call.replace("_", String.valueOf(argument)), answer.applyAsLong(argument), argument + more);
+        }
+    }
+
+    /** Numbers outside of low .. high: the next ones, the farthest ones, and those that are alike in their lowest bits. */
+    static int[] outside(int low, int high) {
+        return new int[] {LOW, LOW + 1, LOW + low + 1, low - 65536, low - 2, low - 1, high + 1, high + 2, low + 32 * (high - low + 1),
+            low + 65536, HIGH - 1, HIGH};
+    }
+
+    /** outside(0, high), but for NONE. */
+    static int[] outsideButNone(int high) {
+        return new int[] {LOW, LOW + 1, -65536, -3, -2, high + 1, high + 2, 32 * (high + 1), 65536, HIGH - 1, HIGH};
+    }
+
+    /** The numbers low .. high. */
+    static int[] from(int low, int high) {
+        int[] row = new int[high - low + 1];
+        for (int i = 0; i < row.length; i++) {
+            row[i] = low + i;
+        }
+        return row;
     }
 
     void is(String call, long got, long want) {
@@ -22,6 +70,11 @@ final class Due {
 
     void that(String what, boolean holds) {
         is(what, holds, true);
+    }
+
+    /** Two lists of answers, a line each (see Seen), are alike. */
+    void same(String what, String want, String got) {
+        is(what + (want.equals(got) ? "" : ": seen was\n" + want + "and is\n" + got), want.equals(got), true);
     }
 
     void finish(String name) {
@@ -69,9 +122,5 @@ final class Due {
         x.lodger(5, 7);
         text(x, "ticks " + sum + ";");
         return x.by(0) ? x.ticks(0, stair, up) : -99;
-    }
-
-    static String repeated(String part, int times) {
-        return part.repeat(times);
     }
 }

@@ -1,0 +1,57 @@
+import java.lang.reflect.InvocationTargetException;
+import java.lang.reflect.Method;
+import java.util.ArrayList;
+import java.util.Arrays;
+import java.util.Comparator;
+import java.util.List;
+
+/**
+ * Sentences of the document that name an edge, each with a test of its own: a static method of one of these classes,
+ * named by its promise (promise7_..) or by its part (partIV_..).
+ */
+public final class EdgesTest {
+    private static final Class<?>[] EDGES = {EdgesPartI.class, EdgesPartII.class, EdgesPartIII.class, EdgesPartIV.class, EdgesPartV.class,
+        EdgesHouse.class, EdgesSteps.class, EdgesAsking.class, EdgesWays.class, EdgesMoods.class, EdgesCodes.class,
+        EdgesPrints.class, EdgesLaws.class, EdgesSums.class, EdgesImage.class};
+
+    public static void main(String[] args) throws Exception {
+        Due due = new Due();
+        List<String> names = new ArrayList<>();
+        for (Class<?> edges : EDGES) {
+            runAll(edges, due, names);
+        }
+        due.test("EdgesTest");
+        for (int promise = 1; promise <= 60; promise++) {
+            String begin = "promise" + promise + "_";
+            due.that("promise " + promise + " has a test", names.stream().anyMatch(name -> name.startsWith(begin)));
+        }
+        for (String part : new String[] {"I", "II", "III", "IV", "V"}) {
+            due.that("part " + part + " has a test", names.stream().anyMatch(name -> name.startsWith("part" + part + "_")));
+        }
+        System.out.println("EdgesTest: " + names.size() + " tests");
+        due.finish("EdgesTest");
+    }
+
+    private static void runAll(Class<?> edges, Due due, List<String> names) throws Exception {
+        Method[] methods = edges.getDeclaredMethods();
+        Arrays.sort(methods, Comparator.comparing(Method::getName));
+        for (Method method : methods) {
+            if (method.getName().matches("(promise[0-9]+|part[IV]+)_\\w+")) {
+                int before = due.asked();
+                names.add(method.getName());
+                due.test(method.getName());
+                run(method, due);
+                due.that("it asks something", due.asked() > before);
+            }
+        }
+    }
+
+    /** What a test throws is its failure, not the end of the others. */
+    private static void run(Method method, Due due) throws Exception {
+        try {
+            method.invoke(null, due);
+        } catch (InvocationTargetException thrown) {
+            due.that("no end by " + thrown.getCause(), false);
+        }
+    }
+}
