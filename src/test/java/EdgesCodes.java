@@ -1,3 +1,5 @@
+import java.util.Arrays;
+
 /** Edges of the promises 35 to 41: code, clear, doubt, free, reads, unread, room. */
 final class EdgesCodes {
     private static final int NONE = Due.NONE;
@@ -7,7 +9,8 @@ final class EdgesCodes {
     // ---- 35
 
     static void promise35_wordsAre1To22222(Due d) {
-        d.each("code(_)", new int[] {1, 2, 11, 12, 21, 22, 111, 222, 1111, 2222, 11111, 12121, 22221, 22222}, w -> new StairRods().code(w), 1);
+        int[] words = {1, 2, 11, 12, 21, 22, 111, 222, 1111, 2222, 11111, 12121, 22221, 22222};
+        d.each("code(_)", words, word -> new StairRods().code(word), 1);
         StairRods x = new StairRods();
         d.each("code(_)", new int[] {0, -2, -11, LOW, LOW + 1, 22223, 111111, 111112, 222222, 1111111111, HIGH}, x::code, -2);
         d.is("about(5)", x.about(5), 0);
@@ -15,7 +18,8 @@ final class EdgesCodes {
 
     static void promise35_digitsAre1And2(Due d) {
         StairRods x = new StairRods();
-        d.each("code(_)", new int[] {3, 9, 10, 20, 13, 31, 23, 32, 100, 101, 121212, 1002, 1022, 1220, 12021, 22220, 20222, 12345}, x::code, -2);
+        int[] others = {3, 9, 10, 20, 13, 31, 23, 32, 100, 101, 121212, 1002, 1022, 1220, 12021, 22220, 20222, 12345};
+        d.each("code(_)", others, x::code, -2);
         int words = 0;
         for (int word = -2; word <= 30000; word++) {
             if (word != NONE && new StairRods().code(word) == 1) {
@@ -39,7 +43,7 @@ final class EdgesCodes {
     static void promise35_oneAlready(Due d) {
         int[] words = {1, 2, 11, 12, 22222};
         for (int told = 1; told <= 5; told++) {
-            StairRods x = Houses.coded(java.util.Arrays.copyOf(words, told));
+            StairRods x = Houses.coded(Arrays.copyOf(words, told));
             for (int i = 0; i < told; i++) {
                 d.is("code(" + words[i] + ")", x.code(words[i]), -2);
             }
@@ -234,7 +238,7 @@ final class EdgesCodes {
 
     private static void room(Due d, int upper, int lower, int... words) {
         StairRods x = Houses.coded(words);
-        String name = java.util.Arrays.toString(words);
+        String name = Arrays.toString(words);
         d.is("room(false) of " + name, x.room(false), upper);
         d.is("room(true) of " + name, x.room(true), lower);
     }

@@ -264,6 +264,32 @@ final class EdgesHouse {
         d.is("fault(1)", x.fault(1), 8);
     }
 
+    static void promise4_bytesThatWereCutOffAreNoMore(Due d) {
+        StairRods x = new StairRods();
+        Due.onTape(x, "hour 60;");
+        x.end(6);
+        d.is("hour 6", x.text(), NONE);
+        d.is("fault(1)", x.fault(1), 6);
+        Due.onTape(x, "hour 60;");
+        x.end(6);
+        x.feed(0x3b202020, 0x20202020, 0x20202020, 0x20202020, 0x20202020);
+        d.is("hour 6;", x.text(), 0);
+        x.played(0);
+        d.is("is(0)", x.is(0), 6);
+        Due.onTape(x, "unhang 5;unhangs 6;");
+        x.end(9);
+        d.is("unhang 5;", x.text(), 1);
+        Due.onTape(x, "unhang 5;");
+        x.end(5);
+        d.is("unhan", x.text(), NONE);
+        d.is("fault(1)", x.fault(1), 0);
+        Due.onTape(x, "ticks if 1<=2 then 3 else 4 end;");
+        x.end(11);
+        x.feed(0x20322074, 0x68656e20, 0x3320656c, 0x73652034, 0x20656e64);
+        x.feed(0x3b202020, 0x20202020, 0x20202020, 0x20202020, 0x20202020);
+        d.is("ticks if 1< 2 then 3 else 4 end;", x.text(), 2);
+    }
+
     // ---- 5
 
     static void promise5_anEmptyTapeIsAText(Due d) {

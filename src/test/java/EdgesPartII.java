@@ -34,6 +34,34 @@ final class EdgesPartII {
         fault(d, 1, 300, "hang 1;" + " ".repeat(289) + "hang");
     }
 
+    static void partII_aTokenThatEndsAtTheTapesLastByte(Due d) {
+        String ahead = "hang 1;" + " ".repeat(286);
+        for (String word : new String[] {"h", "ho", "hou", "hour", "unhan", "tick", "ticks", "foo"}) {
+            boolean begins = word.equals("hour") || word.equals("ticks");
+            String text = " ".repeat(7 - word.length()) + word;
+            fault(d, 1, begins ? 300 : 300 - word.length(), ahead + text);
+        }
+        fault(d, 1, 300, ahead + "hang 12");
+        fault(d, 2, 298, ahead + "hour 61");
+        fault(d, 1, 299, ahead + "      <");
+        fault(d, 1, 298, ahead + "     >=");
+        whole(d, ahead + "hour 1;");
+    }
+
+    static void partII_fourFullTextsAndManyWithFaults(Due d) {
+        StairRods x = new StairRods();
+        for (int t = 0; t < 4; t++) {
+            for (int i = 0; i < 3; i++) {
+                d.is("one with a fault", Due.text(x, "hears 1" + "+1".repeat(146) + "?"), NONE);
+                d.is("fault(1)", x.fault(1), 299);
+            }
+            String law = "hears " + (t + 1) + "+0".repeat(145) + "+" + t + ";";
+            d.is("a full one", Due.text(x, law), t);
+            x.by(t);
+            d.is("hears(1)", x.hears(1), 2 * t + 1);
+        }
+    }
+
     static void partII_blanksAre32And10(Due d) {
         whole(d, "\nhang\n1\n;\n");
         whole(d, " hang 1 ; ");
@@ -342,7 +370,8 @@ final class EdgesPartII {
 
     /** A whole text that has every TOKEN but <, >, =. */
     private static final String[] EVERY = ("ticks if not near 1 of ( 2 + 3 ) <= cups - 4 and weight # floor or who >= trod then way "
-        + "else hour * late / stair end ; hears 5 ; lodger 9 floor 12 ; up 3 by 5 ; down 1 by 0 ; hang 12 ; unhang 1 ; hour 60 ;").split(" ");
+        + "else hour * late / stair end ; hears 5 ; lodger 9 floor 12 ; up 3 by 5 ; down 1 by 0 ; hang 12 ; unhang 1 ; "
+        + "hour 60 ;").split(" ");
 
     private static String joined(List<String> tokens) {
         return String.join(" ", tokens);
@@ -391,7 +420,8 @@ final class EdgesPartII {
         {"ticks (", ONE}, {"ticks (1", "+ - * / )"}, {"ticks (1)", "+ - * / ;"}, {"ticks -", ONE}, {"ticks -1", "+ - * / ;"},
         {"ticks near", ONE}, {"ticks near 1", "of"}, {"ticks near 1 of", ONE}, {"ticks near 1 of 1", "+ - * / ;"}, {"ticks cups", ONE},
         {"ticks cups 1", "+ - * / ;"}, {"ticks if", ASK}, {"ticks if not", ASK}, {"ticks if 1", "+ - * / < <= > >= = #"},
-        {"ticks if 1<", ONE}, {"ticks if 1<=", ONE}, {"ticks if 1>", ONE}, {"ticks if 1>=", ONE}, {"ticks if 1=", ONE}, {"ticks if 1#", ONE},
+        {"ticks if 1<", ONE}, {"ticks if 1<=", ONE}, {"ticks if 1>", ONE}, {"ticks if 1>=", ONE}, {"ticks if 1=", ONE},
+        {"ticks if 1#", ONE},
         {"ticks if 1<1", "+ - * / or and then"}, {"ticks if not 1<1", "+ - * / or and then"}, {"ticks if 1<1 or", ASK},
         {"ticks if 1<1 and", ASK}, {"ticks if 1<1 and 1<1", "+ - * / or and then"}, {"ticks if 1<1 or 1<1", "+ - * / or and then"},
         {"ticks if 1<1 then", ONE}, {"ticks if 1<1 then 1", "+ - * / else"}, {"ticks if 1<1 then 1 else", ONE},
@@ -407,7 +437,8 @@ final class EdgesPartII {
             for (String token : ALL.split(" ")) {
                 String text = row[0] + " " + token;
                 if (can.contains(token)) {
-                    d.that("it can stand at the end of \"" + text + "\"", Due.faultOf(text) == NONE || Due.faultOf(text) == 1000 + text.length());
+                    int found = Due.faultOf(text);
+                    d.that("it can stand at the end of \"" + text + "\"", found == NONE || found == 1000 + text.length());
                 } else if (!row[0].equals("ticks 1;") || !token.equals("ticks")) {
                     fault(d, 1, place, text);
                 }

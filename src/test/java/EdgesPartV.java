@@ -1,3 +1,5 @@
+import java.util.Arrays;
+
 /** Edges that part V names: nights, the image. */
 final class EdgesPartV {
     private static final int NONE = Due.NONE;
@@ -34,7 +36,7 @@ final class EdgesPartV {
     static void partV_aLodgerTreadsUpIfItCan(Due d) {
         // SEED 77: 447 mod 6 is 3, the CUP of 3; then 3306 mod 6 is 0: 3306 mod how many treads 1 up
         for (int lodgers = 1; lodgers <= 6; lodgers++) {
-            StairRods x = Houses.of(java.util.Arrays.copyOf(new int[] {1, 1, 1, 1, 1, 1}, lodgers));
+            StairRods x = Houses.of(Arrays.copyOf(new int[] {1, 1, 1, 1, 1, 1}, lodgers));
             x.nights(77, 2);
             for (int who = 0; who < lodgers; who++) {
                 d.is("of(" + who + ", 2) of " + lodgers, x.of(who, 2), who == 3306 % lodgers ? 1 : 0);

@@ -1,3 +1,5 @@
+import java.util.Arrays;
+
 /** Edges of the promises 42 to 47: print, enough, fits, alone, shared, which. */
 final class EdgesPrints {
     private static final int NONE = Due.NONE;
@@ -57,7 +59,7 @@ final class EdgesPrints {
 
     private static void enough(Due d, int set, int... prints) {
         StairRods x = Houses.printed(prints);
-        String name = java.util.Arrays.toString(prints);
+        String name = Arrays.toString(prints);
         d.is("enough(false) of " + name, x.enough(false), set);
         d.is("enough(true) of " + name, x.enough(true), Integer.bitCount(set));
     }
@@ -181,6 +183,8 @@ final class EdgesPrints {
     static void promise47_ofLikeOnesTheLowest(Due d) {
         d.is("no stair tells apart", Houses.printed(0, 0).which(), 1);
         d.is("no stair tells apart", Houses.printed(8190, 8190, 8190).which(), 1);
+        d.is("no stair tells six apart", Houses.printed(0, 0, 0, 0, 0, 0).which(), 1);
+        d.is("no stair tells six apart", Houses.printed(6, 6, 6, 6, 6, 6).which(), 1);
         for (int stair = 1; stair <= 12; stair++) {
             d.is("from " + stair + " on", Houses.printed(0, 8192 - (1 << stair)).which(), stair);
         }

@@ -195,6 +195,7 @@ final class EdgesSteps {
             d.is("one beyond", x.played(texts), -2);
         }
         d.each("played(_)", Due.outside(0, 3), x::played, -2);
+        d.is("nothing is done", x.about(3), 0);
     }
 
     static void promise11_allIsDone(Due d) {
