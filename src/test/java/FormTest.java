@@ -17,27 +17,28 @@ import java.util.regex.Pattern;
 
 /** The form that LANGUAGE.md asks for, as far as reflection and a look at the lines can tell. Runs in the project's folder. */
 public final class FormTest {
-    private static final String FACE = "lodger(int,int)int feed(int,int,int,int,int)int end(int)int text()int fault(int)int "
-        + "by(int)boolean tread(int,boolean,int)int hang(int,boolean)boolean hour(int)int played(int)int nights(int,int)int "
-        + "undo()int of(int,int)int ticks(int,int,boolean)int hears(int)int is(int)int book(int,int)int "
-        + "foretold(int,int,int)int quiet(int,int,int,int)int ways(int,int)long unheard(int,int,int)long "
-        + "waysBy(int,int,int)long loudest(int)int heardOn(int,boolean)int cupRow()int change(int,int,int)boolean "
-        + "sound(int,int,int)boolean listen(int)int weighed()long mood(int,int,boolean)long moods(int)int likeliest(int)int "
-        + "next(int,boolean)long code(int)int clear()int doubt()int free()int reads(int)int unread()int room(boolean)int "
-        + "print(int,int)boolean enough(boolean)int fits(int,int)int alone(int)int shared()int which()int "
-        + "heavy(int,int)boolean cheapest(int)int said(int,int,int)int whose()int highest()int restless()int home()int "
-        + "doubles()int pause()int ledger(int)int image()int back()int about(int)int";
     private static final Due DUE = new Due();
 
     public static void main(String[] args) throws Exception {
-        face();
+        face(Files.readString(Path.of("../shared/DOC.md")));
         members();
         lines(Files.readString(Path.of("src/main/java/StairRods.java")));
         DUE.finish("FormTest");
     }
 
-    private static void face() {
-        TreeSet<String> want = new TreeSet<>(List.of(FACE.split(" ")));
+    /** The document's methods, written as name(type,type)type. */
+    private static TreeSet<String> dueFace(String document) {
+        TreeSet<String> face = new TreeSet<>();
+        Matcher m = Pattern.compile("\n    public (\\w+) (\\w+)\\(([^)]*)\\);").matcher(document);
+        while (m.find()) {
+            face.add(m.group(2) + "(" + m.group(3).replaceAll("(\\w+) \\w+", "$1").replace(" ", "") + ")" + m.group(1));
+        }
+        DUE.is("methods of the document", face.size(), 59);
+        return face;
+    }
+
+    private static void face(String document) {
+        TreeSet<String> want = dueFace(document);
         TreeSet<String> got = new TreeSet<>();
         TreeSet<String> names = new TreeSet<>();
         for (Method m : StairRods.class.getDeclaredMethods()) {
